@@ -331,7 +331,6 @@ public final class WeakOrderJudge {
     private void removeAll() {
         eventCount = 0;
         fenceCount = 0;
-        outcomeCount = 0;
         solved = false;
         for (int event = 0; event < MOST_EVENTS; event++) {
             dataSource[event] = NONE;
@@ -425,7 +424,7 @@ public final class WeakOrderJudge {
     }
 
     private boolean marksBind(int a, int b) {
-        return isA(a, ACQUIRES) || isA(b, RELEASES) || isA(a, RELEASES) && isA(b, ACQUIRES);
+        return isA(a, ACQUIRES) || isA(b, RELEASES) || (isA(a, RELEASES) && isA(b, ACQUIRES));
     }
 
     private boolean dependenciesBind(int a, int b) {
