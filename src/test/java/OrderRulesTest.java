@@ -10,14 +10,15 @@ public final class OrderRulesTest {
     private static final Check check = new Check();
 
     public static void main(String[] args) {
-        nothingBinds();
-        sameAddress();
-        fences();
-        acquiringAndReleasing();
-        releasingThenAcquiring();
-        dependencies();
-        addressOfOneBetween();
-        otherThreads();
+        check.test("nothing binds two events for which no rule holds", OrderRulesTest::nothingBinds);
+        check.test("(1) both have the same address", OrderRulesTest::sameAddress);
+        check.test("(2), (3), (4) a fence stands between them", OrderRulesTest::fences);
+        check.test("(5) a is acquiring; (6) b is releasing", OrderRulesTest::acquiringAndReleasing);
+        check.test("(7) a is releasing and b is acquiring", OrderRulesTest::releasingThenAcquiring);
+        check.test("(8) by data or by address; (9) by control, and b writes", OrderRulesTest::dependencies);
+        check.test("(10) some event c depends on a by address, and b writes", OrderRulesTest::addressOfOneBetween);
+        check.test("(10) with c < b, wherever the three stand", OrderRulesTest::everyPlaceOfTheThree);
+        check.test("events of different threads are never bound by these rules", OrderRulesTest::otherThreads);
         check.end();
     }
 
@@ -158,6 +159,39 @@ public final class OrderRulesTest {
         x.depend(2, 0, WeakOrderJudge.ADDRESS);
         order("the dependent one comes later", x, 0, 1, false);
         order("the dependent one comes later", x, 0, 2, true);
+    }
+
+    /** Three of the six numbers are a, b and c; the other events are of another thread. */
+    private static void everyPlaceOfTheThree() {
+        for (int first = 0; first < 6; first++) {
+            for (int second = first + 1; second < 6; second++) {
+                for (int third = second + 1; third < 6; third++) {
+                    for (int last = LOAD; last <= ADDITION; last++) {
+                        order("c before b, sort " + last, threeOfSix(first, second, third, LOAD, last, second),
+                            first, third, writes(last));
+                        order("b before c, sort " + last, threeOfSix(first, second, third, last, LOAD, third),
+                            first, second, false);
+                    }
+                }
+            }
+        }
+    }
+
+    private static WeakOrderJudge threeOfSix(int first, int second, int third, int secondSort, int thirdSort, int depending) {
+        WeakOrderJudge x = new WeakOrderJudge(2, 3);
+        for (int event = 0; event < 6; event++) {
+            if (event == first) {
+                x.load(0, 0, 0);
+            } else if (event == second) {
+                put(x, secondSort, 0, 1, 0);
+            } else if (event == third) {
+                put(x, thirdSort, 0, 2, 0);
+            } else {
+                x.load(1, 0, 0);
+            }
+        }
+        x.depend(depending, first, WeakOrderJudge.ADDRESS);
+        return x;
     }
 
     private static void otherThreads() {

@@ -3,49 +3,35 @@ public final class Promise04AddTest {
     private static final Check check = new Check();
 
     public static void main(String[] args) {
-        refusals();
-        amounts();
-        marks();
+        // No amount is a reason to refuse, and none hides one.
+        for (int amount : new int[] {12, -1, 16, Integer.MIN_VALUE, Integer.MAX_VALUE}) {
+            new EventCalls(check, "add of " + amount, 3,
+                (x, thread, address, mark) -> x.add(thread, address, amount, mark)).tests();
+        }
+        check.test("adds an addition with the constant amount & 15", Promise04AddTest::amounts);
+        check.test("mark: 0 unmarked, 1 acquiring, 2 releasing, 3 acquiring and releasing", Promise04AddTest::marks);
         check.end();
     }
 
-    private static void refusals() {
-        WeakOrderJudge x = new WeakOrderJudge(1, 2);
-        check.due("add(-1, 0, 1, 0)", x.add(-1, 0, 1, 0), WeakOrderJudge.BAD_THREAD);
-        check.due("add(1, 2, 1, 4)", x.add(1, 2, 1, 4), WeakOrderJudge.BAD_THREAD);
-        check.due("add(0, -1, 1, 4)", x.add(0, -1, 1, 4), WeakOrderJudge.BAD_ADDRESS);
-        check.due("add(0, 2, 1, 0)", x.add(0, 2, 1, 0), WeakOrderJudge.BAD_ADDRESS);
-        check.due("add(0, 0, 1, -1)", x.add(0, 0, 1, -1), WeakOrderJudge.BAD_KIND);
-        check.due("add(0, 0, 1, 4)", x.add(0, 0, 1, 4), WeakOrderJudge.BAD_KIND);
-        x.solve();
-        x.add(0, 0, 1, 4);
-        check.due("a refused add leaves it solved", x.wished(), 1);
-        for (int event = 0; event < 6; event++) {
-            check.due("add number " + event, x.add(0, event % 2, event, event % 4), event);
-        }
-        check.due("an add makes it not solved", x.wished(), WeakOrderJudge.NOT_SOLVED);
-        check.due("a seventh add", x.add(0, 0, 1, 0), WeakOrderJudge.NO_ROOM);
-        check.due("a seventh add with a bad mark", x.add(0, 0, 1, 4), WeakOrderJudge.BAD_KIND);
-        check.due("events()", x.events(), 6);
-    }
-
     private static void amounts() {
-        sums(0, 0, 0);
-        sums(3, 4, 7);
-        sums(9, 9, 2);
-        sums(15, 1, 0);
-        sums(5, 16, 5);
-        sums(5, -1, 4);
-        sums(0, -1, 15);
+        for (int old = 0; old <= 15; old++) {
+            for (int amount = -17; amount <= 33; amount++) {
+                sums(old, amount, Math.floorMod(old + amount, 16));
+            }
+        }
+        sums(0, Integer.MAX_VALUE, 15);
         sums(1, Integer.MAX_VALUE, 0);
+        sums(15, Integer.MAX_VALUE, 14);
         sums(6, Integer.MIN_VALUE, 6);
+        sums(15, Integer.MIN_VALUE, 15);
+        sums(15, Integer.MIN_VALUE + 1, 0);
     }
 
     private static void sums(int old, int amount, int due) {
         String call = "add(0, 0, " + amount + ", 0) on " + old + ": ";
         WeakOrderJudge x = new WeakOrderJudge(1, 1);
         x.initial(0, old);
-        x.add(0, 0, amount, 0);
+        check.due(call + "the number", x.add(0, 0, amount, 0), 0);
         check.due(call + "outcomes", x.solve(), 1);
         check.due(call + "reads the old value", x.readIn(0, 0), old);
         check.due(call + "writes the sum", x.memoryIn(0, 0), due);

@@ -3,68 +3,157 @@ public final class Promise08ClearTest {
     private static final Check check = new Check();
 
     public static void main(String[] args) {
-        empties();
-        makesRoom();
-        leavesNoOrder();
-        keepsTheCounts();
+        check.test("removes all events", Promise08ClearTest::events);
+        check.test("removes all fences", Promise08ClearTest::fences);
+        check.test("removes all dependencies", Promise08ClearTest::dependencies);
+        check.test("removes all wishes for events", Promise08ClearTest::readWishes);
+        check.test("removes all wishes for addresses", Promise08ClearTest::memoryWishes);
+        check.test("sets all initial values to 0", Promise08ClearTest::initialValues);
+        check.test("every clear() makes the object not solved", Promise08ClearTest::notSolved);
+        check.test("the full program has its whole room again", Promise08ClearTest::makesRoom);
+        check.test("marks do not outlive it", Promise08ClearTest::marks);
+        check.test("the threads and addresses stay", Promise08ClearTest::keepsTheCounts);
+        check.test("a cleared object is as a new one", Promise08ClearTest::asNew);
         check.end();
     }
 
-    private static void empties() {
-        WeakOrderJudge x = new WeakOrderJudge(2, 2);
-        x.initial(0, 5);
-        x.initial(1, 6);
-        x.load(0, 0, 0);
-        x.store(0, 1, 9, 0);
-        x.depend(1, 0, WeakOrderJudge.DATA);
-        x.wantRead(0, 4);
-        x.wantMemory(1, 3);
-        x.solve();
-        x.clear();
-        check.due("wished(): not solved", x.wished(), WeakOrderJudge.NOT_SOLVED);
-        check.due("memoryIn(0, 0): not solved", x.memoryIn(0, 0), WeakOrderJudge.NOT_SOLVED);
-        check.due("events()", x.events(), 0);
-        check.due("always(0, 1)", x.always(0, 1), WeakOrderJudge.BAD_EVENT);
-        check.due("solve()", x.solve(), 1);
-        check.due("memoryIn(0, 0)", x.memoryIn(0, 0), 0);
-        check.due("memoryIn(0, 1)", x.memoryIn(0, 1), 0);
-        check.due("wished(): the wish for the address is gone", x.wished(), 1);
-        check.due("load(0, 0, 0)", x.load(0, 0, 0), 0);
-        x.solve();
-        check.due("wished(): the wish for event 0 is gone", x.wished(), 1);
-        x.clear();
-        check.due("a cleared object is not solved", x.wished(), WeakOrderJudge.NOT_SOLVED);
-        x.clear();
-        check.due("clear() twice", x.events(), 0);
+    private static void events() {
+        for (Programs program : Programs.ALL) {
+            for (WeakOrderJudge x : new WeakOrderJudge[] {program.unsolved(), program.solved()}) {
+                x.clear();
+                check.due("events()", x.events(), 0);
+                check.due("always(0, 1)", x.always(0, 1), WeakOrderJudge.BAD_EVENT);
+                check.due("wantRead(0, 1)", x.wantRead(0, 1), WeakOrderJudge.BAD_EVENT);
+                check.due("depend(1, 0, 1)", x.depend(1, 0, 1), WeakOrderJudge.BAD_EVENT);
+                check.due("solve()", x.solve(), 1);
+                check.due("readIn(0, 0)", x.readIn(0, 0), WeakOrderJudge.BAD_EVENT);
+                check.due("runIn(0, 0)", x.runIn(0, 0), WeakOrderJudge.BAD_PLACE);
+                check.due("memoryIn(1, 0)", x.memoryIn(1, 0), WeakOrderJudge.NO_OUTCOME);
+            }
+        }
+    }
+
+    private static void fences() {
+        for (int place = 0; place <= 2; place++) {
+            WeakOrderJudge x = new WeakOrderJudge(1, 2);
+            for (int event = 0; event < place; event++) {
+                x.load(0, event, 0);
+            }
+            for (int fence = 0; fence < 8; fence++) {
+                x.fence(0, WeakOrderJudge.FULL);
+            }
+            x.clear();
+            x.load(0, 0, 0);
+            x.load(0, 1, 0);
+            check.due("always(0, 1)", x.always(0, 1), 0);
+            for (int fence = 0; fence < 8; fence++) {
+                check.due("fence " + fence, x.fence(0, WeakOrderJudge.FULL), fence);
+            }
+        }
+    }
+
+    private static void dependencies() {
+        for (int kind = WeakOrderJudge.DATA; kind <= WeakOrderJudge.CONTROL; kind++) {
+            for (int later = 1; later < 6; later++) {
+                WeakOrderJudge x = new WeakOrderJudge(1, 3);
+                additions(x, 6);
+                x.depend(later, 0, kind);
+                x.clear();
+                additions(x, 6);
+                check.due("always(0, " + later + ")", x.always(0, later), later == 3 ? 1 : 0);
+                check.due("depend(" + later + ", 0, " + kind + ")", x.depend(later, 0, kind), 0);
+            }
+        }
+    }
+
+    private static void additions(WeakOrderJudge x, int count) {
+        for (int event = 0; event < count; event++) {
+            x.add(0, event % 3, 1, 0);
+        }
+    }
+
+    private static void readWishes() {
+        for (int event = 0; event < 6; event++) {
+            WeakOrderJudge x = new WeakOrderJudge(1, 3);
+            additions(x, 6);
+            x.wantRead(event, 9);
+            x.solve();
+            check.due("wished() before", x.wished(), 0);
+            x.clear();
+            x.solve();
+            check.due("wished() of no event", x.wished(), 1);
+            additions(x, 6);
+            x.solve();
+            check.due("wished() of new events", x.wished(), 1);
+        }
+    }
+
+    private static void memoryWishes() {
+        for (int address = 0; address < 3; address++) {
+            WeakOrderJudge x = new WeakOrderJudge(1, 3);
+            x.wantMemory(address, 9);
+            x.solve();
+            check.due("wished() before", x.wished(), 0);
+            x.clear();
+            x.solve();
+            check.due("wished() of no event", x.wished(), 1);
+        }
+    }
+
+    private static void initialValues() {
+        for (int set = 0; set < 3; set++) {
+            WeakOrderJudge x = new WeakOrderJudge(1, 3);
+            x.initial(set, 15);
+            x.clear();
+            x.solve();
+            for (int address = 0; address < 3; address++) {
+                check.due("memoryIn(0, " + address + ")", x.memoryIn(0, address), 0);
+            }
+        }
+    }
+
+    private static void notSolved() {
+        for (Programs program : Programs.ALL) {
+            WeakOrderJudge x = program.solved();
+            check.holds("it is solved before", x.wished() >= 0);
+            for (int round = 0; round < 3; round++) {
+                x.clear();
+                check.due("wished()", x.wished(), WeakOrderJudge.NOT_SOLVED);
+                check.due("memoryIn(0, 0)", x.memoryIn(0, 0), WeakOrderJudge.NOT_SOLVED);
+                check.due("readIn(0, 0)", x.readIn(0, 0), WeakOrderJudge.NOT_SOLVED);
+                check.due("runIn(0, 0)", x.runIn(0, 0), WeakOrderJudge.NOT_SOLVED);
+                check.due("lost(0, 1)", x.lost(0, 1), WeakOrderJudge.NOT_SOLVED);
+                if (round > 0) {
+                    check.due("solve()", x.solve(), 1);
+                }
+            }
+        }
     }
 
     private static void makesRoom() {
-        WeakOrderJudge x = new WeakOrderJudge(2, 2);
+        WeakOrderJudge x = Programs.FULL.unsolved();
         for (int round = 0; round < 3; round++) {
+            check.due("a seventh event", x.store(0, 0, 1, 0), WeakOrderJudge.NO_ROOM);
+            check.due("a ninth fence", x.fence(0, 1), WeakOrderJudge.NO_ROOM);
+            x.clear();
             for (int event = 0; event < 6; event++) {
                 check.due("event " + event + " of round " + round, x.store(0, 0, 1, 0), event);
             }
             for (int fence = 0; fence < 8; fence++) {
                 check.due("fence " + fence + " of round " + round, x.fence(1, 1), fence);
             }
-            x.clear();
         }
     }
 
-    private static void leavesNoOrder() {
-        for (int kind = WeakOrderJudge.DATA; kind <= WeakOrderJudge.CONTROL; kind++) {
-            WeakOrderJudge x = new WeakOrderJudge(1, 2);
-            x.load(0, 0, 1);
-            x.fence(0, WeakOrderJudge.FULL);
-            x.add(0, 1, 1, 3);
-            x.depend(1, 0, kind);
-            check.due("always(0, 1)", x.always(0, 1), 1);
-            x.clear();
-            x.load(0, 0, 0);
-            x.add(0, 1, 1, 0);
-            check.due("always(0, 1) after clear()", x.always(0, 1), 0);
-            check.due("depend(1, 0, " + kind + ") after clear()", x.depend(1, 0, kind), 0);
-        }
+    private static void marks() {
+        WeakOrderJudge x = new WeakOrderJudge(1, 2);
+        x.add(0, 0, 1, 3);
+        x.add(0, 1, 1, 3);
+        check.due("always(0, 1) before", x.always(0, 1), 1);
+        x.clear();
+        x.load(0, 0, 0);
+        x.store(0, 1, 1, 0);
+        check.due("always(0, 1)", x.always(0, 1), 0);
     }
 
     private static void keepsTheCounts() {
@@ -73,5 +162,17 @@ public final class Promise08ClearTest {
         check.due("load(2, 1, 0)", x.load(2, 1, 0), 0);
         check.due("load(3, 1, 0)", x.load(3, 1, 0), WeakOrderJudge.BAD_THREAD);
         check.due("load(2, 2, 0)", x.load(2, 2, 0), WeakOrderJudge.BAD_ADDRESS);
+    }
+
+    private static void asNew() {
+        for (Programs program : Programs.ALL) {
+            Programs made = new Programs("a new object for " + program.name(), program.threads(), program.addresses(), "",
+                () -> new WeakOrderJudge(program.threads(), program.addresses()));
+            new Twins(check).sameAs(made, "clear() of " + program.name(), () -> {
+                WeakOrderJudge x = program.solved();
+                x.clear();
+                return x;
+            });
+        }
     }
 }

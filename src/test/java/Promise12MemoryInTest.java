@@ -3,25 +3,24 @@ public final class Promise12MemoryInTest {
     private static final Check check = new Check();
 
     public static void main(String[] args) {
-        refusals();
-        numbering();
-        readsWeighMore();
+        new OutcomeCalls(check, "memoryIn", WeakOrderJudge.BAD_ADDRESS, WeakOrderJudge::memoryIn).tests();
+        check.test("the end value without an event is the initial one", Promise12MemoryInTest::noEvent);
+        check.test("then by the end value at address 0, then at address 1, and so on", Promise12MemoryInTest::numbering);
+        check.test("what was read counts before any end value", Promise12MemoryInTest::readsWeighMore);
         check.end();
     }
 
-    private static void refusals() {
-        WeakOrderJudge x = new WeakOrderJudge(2, 2);
-        x.initial(1, 4);
-        check.due("memoryIn(9, 9) unsolved", x.memoryIn(9, 9), WeakOrderJudge.NOT_SOLVED);
-        x.solve();
-        check.due("memoryIn(1, 9)", x.memoryIn(1, 9), WeakOrderJudge.NO_OUTCOME);
-        check.due("memoryIn(-1, 0)", x.memoryIn(-1, 0), WeakOrderJudge.NO_OUTCOME);
-        check.due("memoryIn(0, 2)", x.memoryIn(0, 2), WeakOrderJudge.BAD_ADDRESS);
-        check.due("memoryIn(0, -1)", x.memoryIn(0, -1), WeakOrderJudge.BAD_ADDRESS);
-        check.due("memoryIn(0, 0)", x.memoryIn(0, 0), 0);
-        check.due("memoryIn(0, 1)", x.memoryIn(0, 1), 4);
-        x.store(0, 0, 1, 0);
-        check.due("memoryIn(0, 0) after a change", x.memoryIn(0, 0), WeakOrderJudge.NOT_SOLVED);
+    private static void noEvent() {
+        for (int addresses = 1; addresses <= 3; addresses++) {
+            WeakOrderJudge x = new WeakOrderJudge(1, addresses);
+            for (int address = 0; address < addresses; address++) {
+                x.initial(address, 15 - address);
+            }
+            check.due("solve()", x.solve(), 1);
+            for (int address = 0; address < addresses; address++) {
+                check.due("memoryIn(0, " + address + ")", x.memoryIn(0, address), 15 - address);
+            }
+        }
     }
 
     private static void numbering() {

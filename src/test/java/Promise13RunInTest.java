@@ -3,28 +3,42 @@ public final class Promise13RunInTest {
     private static final Check check = new Check();
 
     public static void main(String[] args) {
-        refusals();
-        leastOfMany();
-        leastRunsOfAnOutcome();
-        obeysTheOrder();
+        new OutcomeCalls(check, "runIn", WeakOrderJudge.BAD_PLACE, WeakOrderJudge::runIn).tests();
+        check.test("the empty program has no place", Promise13RunInTest::noEvent);
+        check.test("one event, one place", Promise13RunInTest::oneEvent);
+        check.test("of all runs that have it, the least", Promise13RunInTest::leastOfMany);
+        check.test("each outcome has its own least run", Promise13RunInTest::leastRunsOfAnOutcome);
+        check.test("the least run is a run", Promise13RunInTest::obeysTheOrder);
+        check.test("six events: the least runs of the first and the last outcome", Promise13RunInTest::firstAndLast);
         check.end();
     }
 
-    private static void refusals() {
+    private static void noEvent() {
         WeakOrderJudge x = new WeakOrderJudge(2, 1);
-        check.due("runIn(9, 9) unsolved", x.runIn(9, 9), WeakOrderJudge.NOT_SOLVED);
         x.solve();
-        check.due("runIn(0, 0) without an event", x.runIn(0, 0), WeakOrderJudge.BAD_PLACE);
-        x.store(0, 0, 1, 0);
-        x.load(1, 0, 0);
-        x.solve();
-        check.due("runIn(2, 9)", x.runIn(2, 9), WeakOrderJudge.NO_OUTCOME);
-        check.due("runIn(-1, 0)", x.runIn(-1, 0), WeakOrderJudge.NO_OUTCOME);
-        check.due("runIn(0, 2)", x.runIn(0, 2), WeakOrderJudge.BAD_PLACE);
+        check.due("runIn(0, 0)", x.runIn(0, 0), WeakOrderJudge.BAD_PLACE);
         check.due("runIn(0, -1)", x.runIn(0, -1), WeakOrderJudge.BAD_PLACE);
-        check.due("runIn(0, MAX)", x.runIn(0, Integer.MAX_VALUE), WeakOrderJudge.BAD_PLACE);
-        run(x, 0, 1, 0);
-        run(x, 1, 0, 1);
+        check.due("runIn(1, 0)", x.runIn(1, 0), WeakOrderJudge.NO_OUTCOME);
+    }
+
+    private static void oneEvent() {
+        WeakOrderJudge x = new WeakOrderJudge(2, 1);
+        x.store(1, 0, 1, 0);
+        x.solve();
+        run(x, 0, 0);
+        check.due("runIn(0, 1)", x.runIn(0, 1), WeakOrderJudge.BAD_PLACE);
+    }
+
+    // Four add to address 0 and two to address 1: the last outcome has both groups backwards.
+    private static void firstAndLast() {
+        WeakOrderJudge x = new WeakOrderJudge(4, 2);
+        for (int event = 0; event < 6; event++) {
+            x.add(event % 4, event / 4, event < 4 ? 1 << event : 1 + event, 0);
+        }
+        check.due("solve()", x.solve(), 48);
+        check.due("readIn(47, 0)", x.readIn(47, 0), 14);
+        run(x, 47, 3, 2, 1, 0, 5, 4);
+        run(x, 0, 0, 1, 2, 3, 4, 5);
     }
 
     private static void run(WeakOrderJudge x, int outcome, int... due) {

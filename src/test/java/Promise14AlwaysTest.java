@@ -3,26 +3,69 @@ public final class Promise14AlwaysTest {
     private static final Check check = new Check();
 
     public static void main(String[] args) {
-        refusals();
-        chains();
-        asItIsNow();
+        new EventPairs(check, "always", WeakOrderJudge::always).tests();
+        check.test("0 if a = b", Promise14AlwaysTest::withItself);
+        check.test("it need not be solved", Promise14AlwaysTest::neverNotSolved);
+        check.test("1 if a comes before b in every run, else 0", Promise14AlwaysTest::oneWay);
+        check.test("in every run: also by two or more rules in a row", Promise14AlwaysTest::chains);
+        check.test("of the program as it is now", Promise14AlwaysTest::asItIsNow);
+        check.test("neither a refused call nor another changes anything", Promise14AlwaysTest::changesNothing);
         check.end();
     }
 
-    private static void refusals() {
-        WeakOrderJudge x = new WeakOrderJudge(2, 2);
-        check.due("always(0, 0) without an event", x.always(0, 0), WeakOrderJudge.BAD_EVENT);
-        x.load(0, 0, 1);
-        x.load(0, 1, 0);
-        check.due("always(-1, 0)", x.always(-1, 0), WeakOrderJudge.BAD_EVENT);
-        check.due("always(0, -1)", x.always(0, -1), WeakOrderJudge.BAD_EVENT);
-        check.due("always(2, 0)", x.always(2, 0), WeakOrderJudge.BAD_EVENT);
-        check.due("always(0, 2)", x.always(0, 2), WeakOrderJudge.BAD_EVENT);
-        check.due("always(2, 2)", x.always(2, 2), WeakOrderJudge.BAD_EVENT);
-        check.due("always(0, MAX)", x.always(0, Integer.MAX_VALUE), WeakOrderJudge.BAD_EVENT);
-        check.due("always(0, 0)", x.always(0, 0), 0);
-        check.due("always(0, 1)", x.always(0, 1), 1);
-        check.due("always(1, 0)", x.always(1, 0), 0);
+    private static void withItself() {
+        for (int events = 1; events <= 6; events++) {
+            WeakOrderJudge x = new WeakOrderJudge(1, 1);
+            for (int event = 0; event < events; event++) {
+                x.add(0, 0, 1, 3);
+            }
+            for (int event = 0; event < events; event++) {
+                check.due("always(" + event + ", " + event + ")", x.always(event, event), 0);
+            }
+        }
+    }
+
+    private static void neverNotSolved() {
+        for (Programs program : Programs.ALL) {
+            WeakOrderJudge unsolved = program.unsolved();
+            WeakOrderJudge solved = program.solved();
+            for (int a = -1; a <= 6; a++) {
+                for (int b = -1; b <= 6; b++) {
+                    boolean events = Math.min(a, b) >= 0 && Math.max(a, b) < program.events();
+                    int answer = unsolved.always(a, b);
+                    check.holds("always(" + a + ", " + b + ") of " + program.name() + ", unsolved: " + answer,
+                        events ? answer == 0 || answer == 1 : answer == WeakOrderJudge.BAD_EVENT);
+                    check.due("always(" + a + ", " + b + ") of " + program.name() + ", solved", solved.always(a, b), answer);
+                }
+            }
+        }
+    }
+
+    // Six events of one thread at one address, and six of which no two are bound.
+    private static void oneWay() {
+        WeakOrderJudge bound = new WeakOrderJudge(1, 1);
+        WeakOrderJudge loose = new WeakOrderJudge(2, 3);
+        for (int event = 0; event < 6; event++) {
+            bound.load(0, 0, 0);
+            loose.load(event % 2, event / 2, 0);
+        }
+        for (int a = 0; a < 6; a++) {
+            for (int b = 0; b < 6; b++) {
+                check.due("bound, always(" + a + ", " + b + ")", bound.always(a, b), a < b ? 1 : 0);
+                check.due("loose, always(" + a + ", " + b + ")", loose.always(a, b), 0);
+            }
+        }
+    }
+
+    private static void changesNothing() {
+        Twins twins = new Twins(check);
+        for (int bad : new int[] {-1, 4}) {
+            twins.unsolvedStays("always(0, " + bad + ")", Programs.SOME, x -> x.always(0, bad), WeakOrderJudge.BAD_EVENT);
+        }
+        twins.changesNothing("always(0, 1)", Programs.SOME, x -> x.always(0, 1), 1);
+        twins.changesNothing("always(3, 2)", Programs.SOME, x -> x.always(3, 2), 0);
+        twins.changesNothing("always(0, 2)", Programs.FULL, x -> x.always(0, 2), 1);
+        twins.changesNothing("always(5, 0)", Programs.FULL, x -> x.always(5, 0), 0);
     }
 
     // Bound by no single rule, but by two or more in a row.

@@ -3,60 +3,194 @@ public final class Promise16WantReadTest {
     private static final Check check = new Check();
 
     public static void main(String[] args) {
-        refusals();
-        wishes();
-        solvedOrNot();
+        check.test("BAD_EVENT", Promise16WantReadTest::badEvent);
+        check.test("NOT_READING if the event is a store", Promise16WantReadTest::notReading);
+        check.test("a value below 0 is no reason to skip a refusal", Promise16WantReadTest::anyValue);
+        check.test("a refused call changes nothing", Promise16WantReadTest::changesNothing);
+        check.test("wishes that the event reads value & 15", Promise16WantReadTest::cutValues);
+        check.test("a value below 0 removes the wish", Promise16WantReadTest::removes);
+        check.test("a value below 0 removes the wish for that event alone", Promise16WantReadTest::removesThatAlone);
+        check.test("to remove a wish that is not there is no refusal", Promise16WantReadTest::removesNothing);
+        check.test("in place of an earlier wish for that event", Promise16WantReadTest::replaces);
+        check.test("wishes never change whether it is solved", Promise16WantReadTest::solvedOrNot);
+        check.test("a wish outlives changes of the program", Promise16WantReadTest::outlives);
         check.end();
     }
 
-    private static void refusals() {
-        WeakOrderJudge x = new WeakOrderJudge(1, 1);
-        check.due("wantRead(0, 0) without an event", x.wantRead(0, 0), WeakOrderJudge.BAD_EVENT);
-        x.store(0, 0, 1, 0);
-        x.load(0, 0, 0);
-        check.due("wantRead(-1, 0)", x.wantRead(-1, 0), WeakOrderJudge.BAD_EVENT);
-        check.due("wantRead(2, 0)", x.wantRead(2, 0), WeakOrderJudge.BAD_EVENT);
-        check.due("wantRead(2, -1)", x.wantRead(2, -1), WeakOrderJudge.BAD_EVENT);
-        check.due("wantRead(0, 0): a store", x.wantRead(0, 0), WeakOrderJudge.NOT_READING);
-        check.due("wantRead(0, -1): a store", x.wantRead(0, -1), WeakOrderJudge.NOT_READING);
-        x.solve();
-        check.due("wished(): the refused ones wish nothing", x.wished(), 1);
+    private static void due(WeakOrderJudge x, int event, int value, int due) {
+        check.due("wantRead(" + event + ", " + value + ")", x.wantRead(event, value), due);
     }
 
-    private static void wishes() {
+    private static void badEvent() {
+        for (int events = 0; events <= 6; events++) {
+            WeakOrderJudge x = new WeakOrderJudge(1, 1);
+            for (int event = 0; event < events; event++) {
+                x.load(0, 0, 0);
+            }
+            for (int event = 0; event < events; event++) {
+                due(x, event, 0, 0);
+            }
+            for (int event : Edges.outside(0, events - 1)) {
+                due(x, event, 0, WeakOrderJudge.BAD_EVENT);
+            }
+        }
+    }
+
+    private static void notReading() {
+        for (int event = 0; event < 6; event++) {
+            WeakOrderJudge x = new WeakOrderJudge(1, 1);
+            for (int other = 0; other < 6; other++) {
+                if (other == event) {
+                    x.store(0, 0, 1, event % 2);
+                } else if (other % 2 == 0) {
+                    x.load(0, 0, 0);
+                } else {
+                    x.add(0, 0, 1, 0);
+                }
+            }
+            for (int other = 0; other < 6; other++) {
+                due(x, other, 1, other == event ? WeakOrderJudge.NOT_READING : 0);
+            }
+        }
+    }
+
+    private static void anyValue() {
+        for (int value : Edges.outside(0, 15)) {
+            for (int event : new int[] {-1, 4}) {
+                due(Programs.SOME.unsolved(), event, value, WeakOrderJudge.BAD_EVENT);
+            }
+            due(Programs.SOME.unsolved(), 1, value, WeakOrderJudge.NOT_READING);
+            due(Programs.SOME.unsolved(), 3, value, 0);
+        }
+    }
+
+    private static void changesNothing() {
+        for (int value : new int[] {0, 12, -1}) {
+            for (Programs program : Programs.ALL) {
+                for (int event : new int[] {-1, program.events()}) {
+                    refused(program, event, value, WeakOrderJudge.BAD_EVENT);
+                }
+            }
+            refused(Programs.SOME, 1, value, WeakOrderJudge.NOT_READING);
+            refused(Programs.FULL, 1, value, WeakOrderJudge.NOT_READING);
+            refused(Programs.LOOSE, 4, value, WeakOrderJudge.NOT_READING);
+            refused(Programs.FULL, 5, value, WeakOrderJudge.NOT_READING);
+        }
+    }
+
+    private static void refused(Programs program, int event, int value, int refusal) {
+        new Twins(check).changesNothing("wantRead(" + event + ", " + value + ")", program,
+            x -> x.wantRead(event, value), refusal);
+    }
+
+    private static WeakOrderJudge oneLoadOf(int value) {
+        WeakOrderJudge x = new WeakOrderJudge(1, 1);
+        x.initial(0, value);
+        x.load(0, 0, 0);
+        x.solve();
+        return x;
+    }
+
+    private static void holdsIn(WeakOrderJudge x, int event, int value, int outcomes) {
+        due(x, event, value, 0);
+        check.due("wished() after wantRead(" + event + ", " + value + ")", x.wished(), outcomes);
+    }
+
+    private static void cutValues() {
+        for (int read = 0; read <= 15; read++) {
+            for (int value = 0; value <= 33; value++) {
+                holdsIn(oneLoadOf(read), 0, value, value % 16 == read ? 1 : 0);
+            }
+        }
+        holdsIn(oneLoadOf(15), 0, Integer.MAX_VALUE, 1);
+        holdsIn(oneLoadOf(14), 0, Integer.MAX_VALUE, 0);
+        holdsIn(oneLoadOf(14), 0, Integer.MAX_VALUE - 1, 1);
+    }
+
+    // The wish that is there first never holds; a wish for value & 15 would take its place, and hold.
+    private static void removes() {
+        for (int value : new int[] {-1, -2, -15, -16, -17, Integer.MIN_VALUE, Integer.MIN_VALUE + 1}) {
+            for (int read = 0; read <= 15; read++) {
+                WeakOrderJudge x = oneLoadOf(read);
+                holdsIn(x, 0, read + 1, 0);
+                holdsIn(x, 0, value, 1);
+            }
+        }
+        WeakOrderJudge x = oneLoadOf(9);
+        holdsIn(x, 0, 0, 0);
+    }
+
+    private static void removesThatAlone() {
+        for (int removed = 0; removed < 6; removed++) {
+            WeakOrderJudge x = new WeakOrderJudge(1, 1);
+            for (int event = 0; event < 6; event++) {
+                x.load(0, 0, 0);
+            }
+            x.solve();
+            for (int event = 0; event < 6; event++) {
+                due(x, event, event == removed ? 1 : 0, 0);
+            }
+            check.due("wished() with the wish that does not hold", x.wished(), 0);
+            holdsIn(x, removed, -1, 1);
+            for (int event = 0; event < 6; event++) {
+                holdsIn(x, event, 1, 0);
+                holdsIn(x, event, -1, 1);
+            }
+        }
+    }
+
+    private static void removesNothing() {
+        WeakOrderJudge x = oneLoadOf(4);
+        holdsIn(x, 0, -1, 1);
+        holdsIn(x, 0, -1, 1);
+        check.due("solve()", x.solve(), 1);
+        check.due("wished()", x.wished(), 1);
+    }
+
+    private static void replaces() {
         WeakOrderJudge x = new WeakOrderJudge(2, 1);
         x.initial(0, 15);
         x.add(0, 0, 1, 0);
         x.load(1, 0, 0);
         x.solve();
-        expect(x, 1, 0, 1);
-        expect(x, 1, 15, 1);
-        expect(x, 1, 7, 0);
-        expect(x, 1, 16, 1);
-        expect(x, 1, 23, 0);
-        expect(x, 1, Integer.MAX_VALUE, 1);
-        expect(x, 1, -1, 2);
-        expect(x, 0, 15, 2);
-        expect(x, 0, 0, 0);
-        expect(x, 1, -5, 0);
-        expect(x, 0, Integer.MIN_VALUE, 2);
-        expect(x, 0, -1, 2);
-    }
-
-    private static void expect(WeakOrderJudge x, int event, int value, int due) {
-        check.due("wantRead(" + event + ", " + value + ")", x.wantRead(event, value), 0);
-        check.due("wished() after wantRead(" + event + ", " + value + ")", x.wished(), due);
+        holdsIn(x, 1, 0, 1);
+        holdsIn(x, 1, 15, 1);
+        holdsIn(x, 1, 7, 0);
+        holdsIn(x, 1, 16, 1);
+        holdsIn(x, 1, 23, 0);
+        holdsIn(x, 1, 31, 1);
+        holdsIn(x, 1, -1, 2);
+        holdsIn(x, 0, 15, 2);
+        holdsIn(x, 0, 0, 0);
+        holdsIn(x, 1, -5, 0);
+        holdsIn(x, 0, -1, 2);
     }
 
     private static void solvedOrNot() {
+        for (int value : new int[] {3, 8, 16, -1}) {
+            WeakOrderJudge x = Programs.SOME.unsolved();
+            due(x, 0, value, 0);
+            check.due("wished() unsolved", x.wished(), WeakOrderJudge.NOT_SOLVED);
+            x.solve();
+            due(x, 3, value, 0);
+            check.holds("it stays solved", x.wished() >= 0);
+        }
+    }
+
+    private static void outlives() {
         WeakOrderJudge x = new WeakOrderJudge(1, 1);
         x.load(0, 0, 0);
-        check.due("wantRead(0, 3) unsolved", x.wantRead(0, 3), 0);
-        check.due("it does not solve", x.wished(), WeakOrderJudge.NOT_SOLVED);
+        due(x, 0, 3, 0);
         x.solve();
-        check.due("the wish stands", x.wished(), 0);
+        check.due("wished()", x.wished(), 0);
         x.initial(0, 3);
         x.solve();
-        check.due("the wish outlives a change", x.wished(), 1);
+        check.due("wished() with another initial value", x.wished(), 1);
+        x.store(0, 0, 4, 0);
+        x.load(0, 0, 0);
+        x.solve();
+        check.due("wished() with more events", x.wished(), 1);
+        due(x, 2, 3, 0);
+        check.due("wished() with a wish for the last", x.wished(), 0);
     }
 }

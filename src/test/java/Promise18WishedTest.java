@@ -3,21 +3,36 @@ public final class Promise18WishedTest {
     private static final Check check = new Check();
 
     public static void main(String[] args) {
-        someWishes();
-        allWishesThatThereCanBe();
+        new SolvedOrNot(check, "wished", WeakOrderJudge::wished).tests();
+        check.test("without a wish: all outcomes", Promise18WishedTest::noWish);
+        check.test("the number of outcomes in which all wishes hold", Promise18WishedTest::someWishes);
+        check.test("the empty program: only addresses may be wished for", Promise18WishedTest::noEvent);
+        check.test("the full program: as many wishes as there can be", Promise18WishedTest::allWishesThatThereCanBe);
+        check.test("180 outcomes", Promise18WishedTest::mostOutcomes);
+        check.test("wishes outlive solve() and are gone with clear()", Promise18WishedTest::solveAndClear);
+        check.test("neither a refused call nor another changes anything", Promise18WishedTest::changesNothing);
         check.end();
     }
 
-    private static void someWishes() {
+    private static WeakOrderJudge storeBuffering() {
         WeakOrderJudge x = new WeakOrderJudge(2, 2);
-        check.due("wished() of a new object", x.wished(), WeakOrderJudge.NOT_SOLVED);
         x.store(0, 0, 1, 0);
         x.load(0, 1, 0);
         x.store(1, 1, 1, 0);
         x.load(1, 0, 0);
+        return x;
+    }
+
+    private static void noWish() {
+        WeakOrderJudge x = storeBuffering();
         check.due("wished() unsolved", x.wished(), WeakOrderJudge.NOT_SOLVED);
         x.solve();
-        check.due("wished() without a wish", x.wished(), 4);
+        check.due("wished()", x.wished(), 4);
+    }
+
+    private static void someWishes() {
+        WeakOrderJudge x = storeBuffering();
+        x.solve();
         x.wantRead(1, 0);
         check.due("wished() with one wish", x.wished(), 2);
         x.wantRead(3, 0);
@@ -30,16 +45,18 @@ public final class Promise18WishedTest {
         x.wantMemory(1, -1);
         x.wantRead(1, -1);
         check.due("wished() with less wishes", x.wished(), 2);
-        x.fence(0, WeakOrderJudge.FULL);
-        check.due("wished() after a change", x.wished(), WeakOrderJudge.NOT_SOLVED);
-        x.solve();
-        check.due("wishes outlive solve()", x.wished(), 2);
-        x.clear();
-        check.due("wished() after clear()", x.wished(), WeakOrderJudge.NOT_SOLVED);
-        x.solve();
-        check.due("wished() of no event", x.wished(), 1);
-        x.wantMemory(0, 1);
-        check.due("wished() of no event, with a wish", x.wished(), 0);
+    }
+
+    private static void noEvent() {
+        for (int address = 0; address < 3; address++) {
+            WeakOrderJudge x = new WeakOrderJudge(1, 3);
+            x.solve();
+            check.due("wished()", x.wished(), 1);
+            x.wantMemory(address, 0);
+            check.due("wished() with a wish that holds", x.wished(), 1);
+            x.wantMemory(address, 1);
+            check.due("wished() with a wish that does not", x.wished(), 0);
+        }
     }
 
     private static void allWishesThatThereCanBe() {
@@ -62,5 +79,48 @@ public final class Promise18WishedTest {
         x.wantMemory(2, 2);
         x.wantRead(5, 0);
         check.due("wished() when that for the last event fails", x.wished(), 0);
+    }
+
+    private static void mostOutcomes() {
+        WeakOrderJudge x = OutcomeCalls.additions(0, 0, 1, 1, 2, 3);
+        x.solve();
+        check.due("wished()", x.wished(), 180);
+        x.wantMemory(0, 1 + 2 + 3 + 4 + 5 + 7);
+        check.due("wished() with the sum", x.wished(), 180);
+        x.wantMemory(0, 5);
+        check.due("wished() with another sum", x.wished(), 0);
+        x.wantMemory(0, -1);
+        for (int event = 0; event < 6; event++) {
+            x.wantRead(event, x.readIn(179, event));
+        }
+        check.due("wished() for the last outcome alone", x.wished(), 1);
+        for (int event = 0; event < 6; event++) {
+            x.wantRead(event, x.readIn(0, event));
+        }
+        check.due("wished() for the first outcome alone", x.wished(), 1);
+    }
+
+    private static void solveAndClear() {
+        WeakOrderJudge x = storeBuffering();
+        x.wantRead(3, 0);
+        x.wantMemory(0, 1);
+        x.solve();
+        check.due("wished()", x.wished(), 2);
+        x.fence(0, WeakOrderJudge.FULL);
+        check.due("wished() after a change", x.wished(), WeakOrderJudge.NOT_SOLVED);
+        x.solve();
+        check.due("wished() after solve()", x.wished(), 2);
+        x.clear();
+        check.due("wished() after clear()", x.wished(), WeakOrderJudge.NOT_SOLVED);
+        x.solve();
+        check.due("wished() of no event", x.wished(), 1);
+    }
+
+    private static void changesNothing() {
+        Twins twins = new Twins(check);
+        for (Programs program : Programs.ALL) {
+            twins.unsolvedStays("wished()", program, WeakOrderJudge::wished, WeakOrderJudge.NOT_SOLVED);
+            twins.solvedStays("wished()", program, WeakOrderJudge::wished, 1);
+        }
     }
 }
