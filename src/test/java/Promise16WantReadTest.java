@@ -3,16 +3,12 @@ public final class Promise16WantReadTest {
     private static final Check check = new Check();
 
     public static void main(String[] args) {
+        new WishCalls(check, "wantRead", 6, WeakOrderJudge::wantRead, Promise16WantReadTest::sixLoadsOf).tests();
         check.test("BAD_EVENT", Promise16WantReadTest::badEvent);
         check.test("NOT_READING if the event is a store", Promise16WantReadTest::notReading);
         check.test("a value below 0 is no reason to skip a refusal", Promise16WantReadTest::anyValue);
         check.test("a refused call changes nothing", Promise16WantReadTest::changesNothing);
-        check.test("wishes that the event reads value & 15", Promise16WantReadTest::cutValues);
-        check.test("a value below 0 removes the wish", Promise16WantReadTest::removes);
-        check.test("a value below 0 removes the wish for that event alone", Promise16WantReadTest::removesThatAlone);
-        check.test("to remove a wish that is not there is no refusal", Promise16WantReadTest::removesNothing);
         check.test("in place of an earlier wish for that event", Promise16WantReadTest::replaces);
-        check.test("wishes never change whether it is solved", Promise16WantReadTest::solvedOrNot);
         check.test("a wish outlives changes of the program", Promise16WantReadTest::outlives);
         check.end();
     }
@@ -83,68 +79,18 @@ public final class Promise16WantReadTest {
             x -> x.wantRead(event, value), refusal);
     }
 
-    private static WeakOrderJudge oneLoadOf(int value) {
+    private static WeakOrderJudge sixLoadsOf(int value) {
         WeakOrderJudge x = new WeakOrderJudge(1, 1);
         x.initial(0, value);
-        x.load(0, 0, 0);
-        x.solve();
+        for (int event = 0; event < 6; event++) {
+            x.load(0, 0, 0);
+        }
         return x;
     }
 
     private static void holdsIn(WeakOrderJudge x, int event, int value, int outcomes) {
         due(x, event, value, 0);
         check.due("wished() after wantRead(" + event + ", " + value + ")", x.wished(), outcomes);
-    }
-
-    private static void cutValues() {
-        for (int read = 0; read <= 15; read++) {
-            for (int value = 0; value <= 33; value++) {
-                holdsIn(oneLoadOf(read), 0, value, value % 16 == read ? 1 : 0);
-            }
-        }
-        holdsIn(oneLoadOf(15), 0, Integer.MAX_VALUE, 1);
-        holdsIn(oneLoadOf(14), 0, Integer.MAX_VALUE, 0);
-        holdsIn(oneLoadOf(14), 0, Integer.MAX_VALUE - 1, 1);
-    }
-
-    // The wish that is there first never holds; a wish for value & 15 would take its place, and hold.
-    private static void removes() {
-        for (int value : new int[] {-1, -2, -15, -16, -17, Integer.MIN_VALUE, Integer.MIN_VALUE + 1}) {
-            for (int read = 0; read <= 15; read++) {
-                WeakOrderJudge x = oneLoadOf(read);
-                holdsIn(x, 0, read + 1, 0);
-                holdsIn(x, 0, value, 1);
-            }
-        }
-        WeakOrderJudge x = oneLoadOf(9);
-        holdsIn(x, 0, 0, 0);
-    }
-
-    private static void removesThatAlone() {
-        for (int removed = 0; removed < 6; removed++) {
-            WeakOrderJudge x = new WeakOrderJudge(1, 1);
-            for (int event = 0; event < 6; event++) {
-                x.load(0, 0, 0);
-            }
-            x.solve();
-            for (int event = 0; event < 6; event++) {
-                due(x, event, event == removed ? 1 : 0, 0);
-            }
-            check.due("wished() with the wish that does not hold", x.wished(), 0);
-            holdsIn(x, removed, -1, 1);
-            for (int event = 0; event < 6; event++) {
-                holdsIn(x, event, 1, 0);
-                holdsIn(x, event, -1, 1);
-            }
-        }
-    }
-
-    private static void removesNothing() {
-        WeakOrderJudge x = oneLoadOf(4);
-        holdsIn(x, 0, -1, 1);
-        holdsIn(x, 0, -1, 1);
-        check.due("solve()", x.solve(), 1);
-        check.due("wished()", x.wished(), 1);
     }
 
     private static void replaces() {
@@ -164,17 +110,6 @@ public final class Promise16WantReadTest {
         holdsIn(x, 0, 0, 0);
         holdsIn(x, 1, -5, 0);
         holdsIn(x, 0, -1, 2);
-    }
-
-    private static void solvedOrNot() {
-        for (int value : new int[] {3, 8, 16, -1}) {
-            WeakOrderJudge x = Programs.SOME.unsolved();
-            due(x, 0, value, 0);
-            check.due("wished() unsolved", x.wished(), WeakOrderJudge.NOT_SOLVED);
-            x.solve();
-            due(x, 3, value, 0);
-            check.holds("it stays solved", x.wished() >= 0);
-        }
     }
 
     private static void outlives() {
