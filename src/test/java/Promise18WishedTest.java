@@ -8,6 +8,7 @@ public final class Promise18WishedTest {
         check.test("the number of outcomes in which all wishes hold", Promise18WishedTest::someWishes);
         check.test("the empty program: only addresses may be wished for", Promise18WishedTest::noEvent);
         check.test("the full program: as many wishes as there can be", Promise18WishedTest::allWishesThatThereCanBe);
+        check.test("a wish for an event and one for an address leave each other", Promise18WishedTest::bothKinds);
         check.test("180 outcomes", Promise18WishedTest::mostOutcomes);
         check.test("wishes outlive solve() and are gone with clear()", Promise18WishedTest::solveAndClear);
         check.test("neither a refused call nor another changes anything", Promise18WishedTest::changesNothing);
@@ -79,6 +80,31 @@ public final class Promise18WishedTest {
         x.wantMemory(2, 2);
         x.wantRead(5, 0);
         check.due("wished() when that for the last event fails", x.wished(), 0);
+    }
+
+    // One wish does not hold; the other, set or removed after it, must not touch it.
+    private static void bothKinds() {
+        for (int event = 0; event < 6; event++) {
+            for (int address = 0; address < 3; address++) {
+                for (int value : new int[] {0, -1}) {
+                    WeakOrderJudge x = new WeakOrderJudge(1, 3);
+                    for (int load = 0; load < 6; load++) {
+                        x.load(0, load % 3, 0);
+                    }
+                    x.solve();
+                    x.wantMemory(address, 9);
+                    x.wantRead(event, value);
+                    check.due("wished() with a wish for address " + address, x.wished(), 0);
+                    x.wantMemory(address, -1);
+                    check.due("wished() without it", x.wished(), 1);
+                    x.wantRead(event, 9);
+                    x.wantMemory(address, value);
+                    check.due("wished() with a wish for event " + event, x.wished(), 0);
+                    x.wantRead(event, -1);
+                    check.due("wished() without it", x.wished(), 1);
+                }
+            }
+        }
     }
 
     private static void mostOutcomes() {
