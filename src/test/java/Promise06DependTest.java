@@ -20,6 +20,7 @@ public final class Promise06DependTest {
         check.test("BAD_PAIR if kind is DATA and later is a load", Promise06DependTest::dataToALoad);
         check.test("ALREADY if later has a dependency of that kind", Promise06DependTest::already);
         check.test("an event has at most one dependency of each kind", Promise06DependTest::oneOfEachKind);
+        check.test("ALREADY leaves the dependencies of the other kinds and events", Promise06DependTest::alreadyLeavesOthers);
         check.test("BAD_EVENT is tested before all else", Promise06DependTest::badEventFirst);
         check.test("BAD_PAIR of the two events is tested before BAD_KIND and ALREADY", Promise06DependTest::badPairSecond);
         check.test("BAD_KIND is tested before BAD_PAIR of data and a load, and before ALREADY", Promise06DependTest::badKindThird);
@@ -169,6 +170,26 @@ public final class Promise06DependTest {
         }
         check.due("always(1, 2): the refused ones do not bind", x.always(1, 2), 0);
         check.due("always(0, 2)", x.always(0, 2), 1);
+    }
+
+    /** All that there can be; after one call refused with ALREADY, each of them is still there. */
+    private static void alreadyLeavesOthers() {
+        for (int later = 1; later < 6; later++) {
+            for (int kind = DATA; kind <= CONTROL; kind++) {
+                for (int other = 1; other < 6; other++) {
+                    for (int otherKind = DATA; otherKind <= CONTROL; otherKind++) {
+                        WeakOrderJudge x = additions(6);
+                        for (int event = 1; event < 6; event++) {
+                            for (int taken = DATA; taken <= CONTROL; taken++) {
+                                due(x, event, 0, taken, 0);
+                            }
+                        }
+                        due(x, later, 0, kind, ALREADY);
+                        due(x, other, 0, otherKind, ALREADY);
+                    }
+                }
+            }
+        }
     }
 
     private static void badEventFirst() {
