@@ -14,6 +14,7 @@ public final class Promise08ClearTest {
         check.test("marks do not outlive it", Promise08ClearTest::marks);
         check.test("the threads and addresses stay", Promise08ClearTest::keepsTheCounts);
         check.test("a cleared object is as a new one", Promise08ClearTest::asNew);
+        check.test("a cleared object solves lesser programs as a new one", Promise08ClearTest::lesserPrograms);
         check.end();
     }
 
@@ -173,6 +174,34 @@ public final class Promise08ClearTest {
                 x.clear();
                 return x;
             });
+        }
+    }
+
+    // What was found for more events must not show when there are fewer.
+    private static void lesserPrograms() {
+        for (int before = 2; before <= 6; before++) {
+            for (int events = 1; events < before; events++) {
+                WeakOrderJudge x = new WeakOrderJudge(4, 3);
+                for (int event = 0; event < before; event++) {
+                    x.add(event % 4, event % 3, 7, 0);
+                }
+                x.solve();
+                x.clear();
+                lesserProgram(x, events, events + " additions after " + before + " and clear(): ");
+            }
+        }
+    }
+
+    private static void lesserProgram(WeakOrderJudge x, int events, String what) {
+        for (int event = 0; event < events; event++) {
+            x.add(0, 0, 1, 0);
+        }
+        check.due(what + "solve()", x.solve(), 1);
+        check.due(what + "wished()", x.wished(), 1);
+        check.due(what + "memoryIn(0, 0)", x.memoryIn(0, 0), events);
+        for (int event = 0; event < events; event++) {
+            check.due(what + "readIn(0, " + event + ")", x.readIn(0, event), event);
+            check.due(what + "runIn(0, " + event + ")", x.runIn(0, event), event);
         }
     }
 }

@@ -8,6 +8,7 @@ public final class Promise14AlwaysTest {
         check.test("it need not be solved", Promise14AlwaysTest::neverNotSolved);
         check.test("1 if a comes before b in every run, else 0", Promise14AlwaysTest::oneWay);
         check.test("in every run: also by two or more rules in a row", Promise14AlwaysTest::chains);
+        check.test("in every run: by two rules in a row, wherever the three stand", Promise14AlwaysTest::everyPlaceOfAChain);
         check.test("of the program as it is now", Promise14AlwaysTest::asItIsNow);
         check.test("neither a refused call nor another changes anything", Promise14AlwaysTest::changesNothing);
         check.end();
@@ -88,6 +89,25 @@ public final class Promise14AlwaysTest {
         check.due("always(0, 5): by 2", x.always(0, 5), 1);
         check.due("always(3, 5)", x.always(3, 5), 0);
         check.due("always(4, 5)", x.always(4, 5), 0);
+    }
+
+    private static void everyPlaceOfAChain() {
+        for (int addresses = 2; addresses <= 3; addresses++) {
+            for (int first = 0; first <= 3; first++) {
+                WeakOrderJudge x = new WeakOrderJudge(2, addresses);
+                for (int event = 0; event < first; event++) {
+                    x.load(1, 0, 0);
+                }
+                x.load(0, 0, 0);
+                x.store(0, 1, 1, 0);
+                x.load(0, 1, 0);
+                String pair = "always(" + first + ", " + (first + 2) + ") of " + addresses + " addresses";
+                check.due(pair + " before depend", x.always(first, first + 2), 0);
+                x.depend(first + 1, first, WeakOrderJudge.DATA);
+                check.due(pair, x.always(first, first + 2), 1);
+                check.due("the other way", x.always(first + 2, first), 0);
+            }
+        }
     }
 
     private static void asItIsNow() {
